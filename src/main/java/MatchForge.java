@@ -29,16 +29,19 @@ public final class MatchForge {
     private final int[] given;
 
     public MatchForge() {
-        types = new Types();
-        values = new Terms(LARGEST_VALUE);
-        patterns = new Terms(LARGEST_PATTERN);
+        Types newTypes = new Types();
+        Terms newValues = new Terms(LARGEST_VALUE);
+        Terms newPatterns = new Terms(LARGEST_PATTERN);
+        types = newTypes;
+        values = newValues;
+        patterns = newPatterns;
         matches = new Match[MOST_MATCHES];
         matchCount = 0;
-        builder = new Builder(types, patterns);
-        latest = new Walk(values);
-        trial = new Walk(values);
-        judge = new Judge(patterns, values);
-        teller = new Teller(types);
+        builder = new Builder(newTypes, newPatterns);
+        latest = new Walk(newValues);
+        trial = new Walk(newValues);
+        judge = new Judge(newPatterns, newValues);
+        teller = new Teller(newTypes);
         given = new int[MOST_PARTS];
     }
 
@@ -548,7 +551,8 @@ public final class MatchForge {
         static final int FAILURE = 3;
         static final int KINDS = 4;
         static final int MOST = 120;
-        static final int MOST_PLACES = MOST_PARTS * (MOST + 1);
+        /** Those of the match, for the root, and those of one maker for each other node. */
+        static final int MOST_PLACES = MOST_PARTS * MOST;
 
         boolean tooLarge = false;
         int size = 0;
@@ -582,16 +586,14 @@ public final class MatchForge {
         void become(int node, int newKind) {
             kind[node] = newKind;
             tally[newKind]++;
-            branches[node] = 0;
             if (newKind == FAILURE && firstFailure == NONE) {
                 firstFailure = node;
             }
         }
 
-        int addPlace(int t) {
+        void addPlace(int t) {
             placeType[placeCount] = t;
             placeCount++;
-            return placeCount - 1;
         }
 
         /** The first of n new branches; NONE when the tree gets too large by them. */
@@ -832,6 +834,7 @@ public final class MatchForge {
             return patterns.kind[left] == Terms.ANY ? NONE : left;
         }
 
+        /** Behind this node nothing is tested for the first row: it fails, takes it, or asks. */
         private void endNode(int node) {
             if (tree.tooLarge) {
                 return;
@@ -970,6 +973,7 @@ public final class MatchForge {
             Arrays.fill(standsFor, NONE);
         }
 
+        /** As before any run, and after one without such a match or value. */
         void clear() {
             Arrays.fill(standsFor, NONE);
             tests = 0;
