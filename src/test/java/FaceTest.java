@@ -49,7 +49,8 @@ public final class FaceTest {
         && constructors[0].getParameterCount() == 0, "the constructor");
     for (Class<?> inner : face.getDeclaredClasses()) {
       expect(Modifier.isStatic(inner.getModifiers()), "not static: " + inner);
-      expect(inner.getDeclaredFields().length > 0, "without fields: " + inner);
+      expect(!Modifier.isPublic(inner.getModifiers()) && !Modifier.isProtected(inner.getModifiers()),
+          "public or protected: " + inner);
     }
     expect(MatchForge.NONE == -1, "NONE is " + MatchForge.NONE);
     expect(MatchForge.FULL == -2, "FULL is " + MatchForge.FULL);

@@ -43,9 +43,10 @@ public final class LanguageTest {
     expect(source.chars().allMatch(c -> c < 256), "rule 3: characters over 255");
     refuse(code, "\\bpackage\\b[^;]*;", "no package line");
     refuse(code, "\\bimport\\s+(?!java\\.util\\.(Arrays|ArrayList|List|Iterator);)[^;]*;", "rule 4");
-    refuse(code, "->|::", "rule 2");
+    // The arrows of a switch are fine, those of lambdas are not.
+    refuse(code.replaceAll("(?m)^\\s*(case [^:>]*|default)\\s*->", ""), "->|::", "rule 2");
     refuse(code, "\\b(throw|throws|try|catch|finally|synchronized|assert)\\b", "rule 6");
-    refuse(code, "\\b(equals|hashCode|toString)\\s*\\(", "rule 6");
+    refuse(code, "\\b(boolean equals|int hashCode|String toString)\\s*\\(", "rule 6");
     refuse(code, "\\w+Exact\\b", "rule 4");
     refuse(code, "\\bstatic\\s+(?!final\\b)\\w+(\\[\\])?\\s+\\w+\\s*[=;]", "rule 5");
     refuse(code, "\\bstatic\\s*\\{", "rule 5");
