@@ -28,6 +28,20 @@ final class Forge {
     return x;
   }
 
+  /**
+   * A match of two numbers; j rows (ANY, a NUMBER) behind one of k numbers before a NUMBER: k + j
+   * rows come together. Its tree has (k + 1)(j + 3) nodes; with a guard behind all these rows,
+   * (k + 1)(j + 4), k + 1 of them questions.
+   */
+  static Forge grid(int k, int j) {
+    Forge x = new Forge();
+    x.match(2, 0, 0, 0);
+    x.row(0, x.oneOf(0, k), x.exactly(500), 0);
+    int any = x.any(0, NONE);
+    for (int i = 0; i < j; i++) x.row(0, any, x.exactly(100 + i), 0);
+    return x;
+  }
+
   int calls() {
     return calls;
   }
@@ -42,13 +56,6 @@ final class Forge {
     int p = exactly(from);
     for (int i = 1; i < n; i++) p = either(p, exactly(from + i));
     return p;
-  }
-
-  /** ALSO of so many names from 0 on, around a pattern. */
-  int alsoNames(int n, int p) {
-    int named = p;
-    for (int name = 0; name < n; name++) named = also(name, named);
-    return named;
   }
 
   /** A row of a match without a guard. */

@@ -370,6 +370,14 @@ public final class MissingEdgesTest {
     due("a tree", x.tree(0, 3), 0);
     due("a match", x.match(1, 0, 0, 0), 1);
     due("check()", x.check(), 1);
+    due("a run that is NONE", x.run(2, 0, 0, 0), NONE);
+    x.partsAre(1, 0);
+    int p = x.oneOf(0, 13);
+    x.match(1, 0, 0, 0);
+    x.row(2, p, 0, 0);
+    x.row(2, p, 0, 0);
+    due("a run that is FULL", x.run(2, 0, 0, 0), FULL);
+    due("a tree that is FULL", x.tree(2, 0), FULL);
     x.partsAre(1, 0);
     missingIs(x, 1, 0);
     missingIs(x, 0);

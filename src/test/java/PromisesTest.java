@@ -1,61 +1,19 @@
 /** For each promise of the document: ordinary inputs, the edges that it names, and wrong inputs. */
 public final class PromisesTest {
-  private static final int NONE = MatchForge.NONE;
-  private static final int FULL = MatchForge.FULL;
-  private static int wrong = 0;
-  private static int asked = 0;
-  private static String promise = "";
+  private static final int NONE = Forge.NONE;
+  private static final int FULL = Forge.FULL;
 
-  private static void due(String call, int got, int want) {
-    asked++;
-    if (got != want) {
-      wrong++;
-      System.out.println(promise + ": " + call + " answered " + got + ", due is " + want);
-    }
+  private static void due(String what, int got, int want) {
+    Due.due(what, got, want);
   }
 
-  private static void counts(MatchForge x, int... want) {
+  private static void counts(Forge x, int... want) {
     for (int i = 0; i < want.length; i++) due("count(" + i + ")", x.count(i), want[i]);
   }
 
-  private static void parts(MatchForge x, int... want) {
-    for (int i = 0; i < want.length; i++) due("part(" + i + ")", x.part(i), want[i]);
-    due("the part behind the last", x.part(want.length), NONE);
-  }
-
-  private static void treeIs(MatchForge x, int m, int... want) {
-    for (int i = 0; i < want.length; i++) due("tree(" + m + ", " + i + ")", x.tree(m, i), want[i]);
-  }
-
-  /** Type 1: 0 is the empty list, 1 is a number before a list. */
-  private static MatchForge lists() {
-    MatchForge x = new MatchForge();
-    x.type();
-    x.maker(1, 0, 0, 0, 0);
-    x.maker(1, 2, 0, 1, 0);
-    return x;
-  }
-
-  /** EITHER of the numbers from, from + 1, and so on: n of them. */
-  private static int oneOf(MatchForge x, int from, int n) {
-    int p = x.exactly(from);
-    for (int i = 1; i < n; i++) p = x.either(p, x.exactly(from + i));
-    return p;
-  }
-
-  /** A match of two numbers whose tree has k(j + 3) + j + 3 nodes; j + 1 rows, j + k together. */
-  private static MatchForge grid(int k, int j) {
-    MatchForge x = new MatchForge();
-    x.match(2, 0, 0, 0);
-    x.row(0, oneOf(x, 0, k), x.exactly(500), 0, NONE, 0);
-    int any = x.any(0, NONE);
-    for (int i = 0; i < j; i++) x.row(0, any, x.exactly(100 + i), 0, NONE, 0);
-    return x;
-  }
-
   private static void newObject() {
-    promise = "promise 1";
-    MatchForge x = new MatchForge();
+    Due.promise(1, "in all");
+    Forge x = new Forge();
     counts(x, 1, 0, 0, 0, 0, 0);
     due("plain(0)", x.plain(0), 1);
     due("plain(1)", x.plain(1), NONE);
@@ -64,22 +22,22 @@ public final class PromisesTest {
     due("run(0, 0, 0, 0)", x.run(0, 0, 0, 0), NONE);
     due("part(0)", x.part(0), NONE);
     due("check()", x.check(), 1);
-    MatchForge y = new MatchForge();
+    Forge y = new Forge();
     y.type();
     y.number(1);
     counts(x, 1, 0, 0, 0, 0, 0);
     for (int name = 0; name < 16; name++) due("took(" + name + ")", x.took(name), NONE);
-    due("took(16) before a run", new MatchForge().took(16), 0);
-    due("took(17) before a run", new MatchForge().took(17), 0);
+    due("took(16) before a run", new Forge().took(16), 0);
+    due("took(17) before a run", new Forge().took(17), 0);
   }
 
   private static void type() {
-    promise = "promise 2";
-    MatchForge x = new MatchForge();
+    Due.promise(2, "in all");
+    Forge x = new Forge();
     for (int i = 1; i <= 7; i++) due("type()", x.type(), i);
     due("the eighth type()", x.type(), NONE);
     due("count(0)", x.count(0), 8);
-    MatchForge y = new MatchForge();
+    Forge y = new Forge();
     y.number(1);
     y.any(0, NONE);
     y.match(1, 0, 0, 0);
@@ -87,8 +45,8 @@ public final class PromisesTest {
   }
 
   private static void maker() {
-    promise = "promise 3";
-    MatchForge x = new MatchForge();
+    Due.promise(3, "in all");
+    Forge x = new Forge();
     x.type();
     x.type();
     due("of a type without makers", x.maker(1, 3, 2, 0, 1), 0);
@@ -110,16 +68,16 @@ public final class PromisesTest {
     due("the seventh", x.maker(1, 0, 0, 0, 0), NONE);
     due("of another type", x.maker(2, 0, 0, 0, 0), 1);
     counts(x, 3, 8);
-    MatchForge value = lists();
+    Forge value = Forge.lists();
     value.number(4);
     due("after a value", value.maker(1, 0, 0, 0, 0), NONE);
-    MatchForge pattern = lists();
+    Forge pattern = Forge.lists();
     pattern.any(1, NONE);
     due("after a pattern", pattern.maker(1, 0, 0, 0, 0), NONE);
-    MatchForge match = lists();
+    Forge match = Forge.lists();
     match.match(1, 1, 0, 0);
     due("after a match", match.maker(1, 0, 0, 0, 0), NONE);
-    MatchForge refused = lists();
+    Forge refused = Forge.lists();
     refused.make(1, 1, 0, 0, 0);
     refused.any(9, NONE);
     refused.match(0, 0, 0, 0);
@@ -127,8 +85,8 @@ public final class PromisesTest {
   }
 
   private static void number() {
-    promise = "promise 4";
-    MatchForge x = new MatchForge();
+    Due.promise(4, "in all");
+    Forge x = new Forge();
     due("number(MIN)", x.number(Integer.MIN_VALUE), 0);
     due("number(MAX)", x.number(Integer.MAX_VALUE), 1);
     for (int i = 2; i < 300; i++) due("number(7)", x.number(7), i);
@@ -141,8 +99,8 @@ public final class PromisesTest {
   }
 
   private static void make() {
-    promise = "promise 5";
-    MatchForge x = lists();
+    Due.promise(5, "in all");
+    Forge x = Forge.lists();
     x.number(5);
     due("the empty list", x.make(1, 0, 99, -3, 7), 1);
     due("a list of one", x.make(1, 1, 0, 1, 99), 2);
@@ -161,7 +119,7 @@ public final class PromisesTest {
     due("of size 99", v, 50);
     due("of size 101", x.make(1, 1, 0, v, 0), NONE);
     due("count(2)", x.count(2), 51);
-    MatchForge y = new MatchForge();
+    Forge y = new Forge();
     y.type();
     y.maker(1, 0, 0, 0, 0);
     y.maker(1, 1, 1, 0, 0);
@@ -175,8 +133,8 @@ public final class PromisesTest {
   }
 
   private static void any() {
-    promise = "promise 6";
-    MatchForge x = lists();
+    Due.promise(6, "in all");
+    Forge x = Forge.lists();
     due("ANY of the numbers", x.any(0, NONE), 0);
     due("ANY of a type", x.any(1, NONE), 1);
     due("name 0", x.any(1, 0), 2);
@@ -186,7 +144,7 @@ public final class PromisesTest {
     due("no such type", x.any(2, NONE), NONE);
     due("no such type", x.any(-1, 0), NONE);
     due("count(3)", x.count(3), 4);
-    MatchForge y = new MatchForge();
+    Forge y = new Forge();
     y.type();
     due("of a type without values", y.any(1, NONE), 0);
     for (int i = 1; i < 300; i++) due("any(0, 1)", y.any(0, 1), i);
@@ -200,8 +158,8 @@ public final class PromisesTest {
   }
 
   private static void also() {
-    promise = "promise 7";
-    MatchForge x = new MatchForge();
+    Due.promise(7, "in all");
+    Forge x = new Forge();
     x.exactly(4);
     due("also(3, ..)", x.also(3, 0), 1);
     due("twice", x.also(15, 1), 2);
@@ -226,7 +184,7 @@ public final class PromisesTest {
     due("a name", x.took(0), 1);
     due("a NAME in it", x.took(1), 1);
     due("a name of another row", x.took(3), NONE);
-    int large = oneOf(x, 10, 20);
+    int large = x.oneOf(10, 20);
     due("of size 40", x.also(0, large), x.count(3) - 1);
     due("of size 41", x.also(1, x.count(3) - 1), NONE);
     for (int i = x.count(3); i < 300; i++) x.exactly(0);
@@ -234,8 +192,8 @@ public final class PromisesTest {
   }
 
   private static void exactly() {
-    promise = "promise 8";
-    MatchForge x = new MatchForge();
+    Due.promise(8, "in all");
+    Forge x = new Forge();
     due("exactly(MIN)", x.exactly(Integer.MIN_VALUE), 0);
     due("exactly(-2)", x.exactly(-2), 1);
     x.match(1, 0, 0, 0);
@@ -252,8 +210,8 @@ public final class PromisesTest {
   }
 
   private static void made() {
-    promise = "promise 9";
-    MatchForge x = lists();
+    Due.promise(9, "in all");
+    Forge x = Forge.lists();
     x.any(0, 3);
     x.any(1, 4);
     x.any(1, 3);
@@ -294,8 +252,8 @@ public final class PromisesTest {
   }
 
   private static void either() {
-    promise = "promise 10";
-    MatchForge x = lists();
+    Due.promise(10, "in all");
+    Forge x = Forge.lists();
     x.exactly(1);
     x.exactly(2);
     x.any(0, 7);
@@ -312,12 +270,12 @@ public final class PromisesTest {
     due("no such patterns", x.either(0, -1), NONE);
     x.any(0, 6);
     due("as many names, but others", x.either(2, 8), NONE);
-    due("of size 39", x.either(oneOf(x, 0, 9), oneOf(x, 0, 11)), x.count(3) - 1);
+    due("of size 39", x.either(x.oneOf(0, 9), x.oneOf(0, 11)), x.count(3) - 1);
     due("of size 41", x.either(x.count(3) - 1, 0), NONE);
     for (int i = x.count(3); i < 300; i++) x.exactly(0);
     due("the 301st", x.either(0, 1), NONE);
 
-    MatchForge y = lists();
+    Forge y = Forge.lists();
     int head = y.made(1, 1, y.any(0, 2), y.any(1, NONE), 0);
     int second = y.made(1, 1, y.any(0, NONE), y.made(1, 1, y.any(0, 2), y.any(1, NONE), 0), 0);
     y.match(1, 1, 0, 0);
@@ -339,8 +297,8 @@ public final class PromisesTest {
   }
 
   private static void match() {
-    promise = "promise 11";
-    MatchForge x = lists();
+    Due.promise(11, "in all");
+    Forge x = Forge.lists();
     due("one type", x.match(1, 1, 99, 99), 0);
     due("two types", x.match(2, 0, 1, -7), 1);
     due("three types", x.match(3, 0, 1, 0), 2);
@@ -350,16 +308,16 @@ public final class PromisesTest {
     due("the first is none", x.match(1, 2, 0, 0), NONE);
     due("the second is none", x.match(2, 0, -1, 0), NONE);
     due("the third is none", x.match(3, 0, 0, 2), NONE);
-    treeIs(x, 2, 0, 0, 0, 1, 0);
+    x.treeIs(2, 0, 0, 0, 1, 0);
     for (int i = 3; i < 20; i++) due("match(1, 0, ..)", x.match(1, 0, 0, 0), i);
     due("the 21st", x.match(1, 0, 0, 0), NONE);
     due("count(4)", x.count(4), 20);
-    MatchForge y = lists();
+    Forge y = Forge.lists();
     due("match", y.match(1, 0, 0, 0), 0);
     y.type();
     due("another type has no values", y.match(1, 0, 0, 0), NONE);
     due("the old one stands", y.missing(0), 1);
-    MatchForge z = new MatchForge();
+    Forge z = new Forge();
     z.type();
     z.type();
     z.maker(1, 1, 2, 0, 0);
@@ -370,8 +328,8 @@ public final class PromisesTest {
   }
 
   private static void row() {
-    promise = "promise 12";
-    MatchForge x = lists();
+    Due.promise(12, "in all");
+    Forge x = Forge.lists();
     int any = x.any(0, NONE);
     int name0 = x.any(0, 0);
     int name1 = x.any(0, 1);
@@ -412,8 +370,8 @@ public final class PromisesTest {
   }
 
   private static void run() {
-    promise = "promise 13";
-    MatchForge x = lists();
+    Due.promise(13, "in all");
+    Forge x = Forge.lists();
     x.match(2, 0, 0, 0);
     x.match(1, 1, 0, 0);
     x.row(0, x.any(0, 3), x.any(0, 4), 0, 3, 4);
@@ -434,7 +392,7 @@ public final class PromisesTest {
     due("a value of another type", x.run(1, small, 0, 0), NONE);
     due("a row that comes later", x.row(0, x.any(0, NONE), x.any(0, NONE), 0, NONE, 0), 2);
     due("is looked at", x.run(0, small, small, 0), 2);
-    MatchForge y = grid(9, 9);
+    Forge y = Forge.grid(9, 9);
     y.number(0);
     y.number(100);
     due("of 120", y.run(0, 0, 1, 0), 1);
@@ -444,8 +402,8 @@ public final class PromisesTest {
   }
 
   private static void took() {
-    promise = "promise 14";
-    MatchForge x = lists();
+    Due.promise(14, "in all");
+    Forge x = Forge.lists();
     x.match(2, 0, 1, 0);
     int pair = x.made(1, 1, x.any(0, 1), x.any(1, 15), 0);
     x.row(0, x.any(0, 0), x.also(2, pair), 0, 0, 1);
@@ -489,7 +447,7 @@ public final class PromisesTest {
     due("took(16)", x.took(16), 0);
     x.run(0, 1, 5, 0);
     x.match(2, 0, 0, 0);
-    x.row(1, oneOf(x, 0, 14), x.any(0, NONE), 0, NONE, 0);
+    x.row(1, x.oneOf(0, 14), x.any(0, NONE), 0, NONE, 0);
     for (int i = 0; i < 11; i++) x.row(1, x.exactly(100 + i), x.any(0, NONE), 0, NONE, 0);
     due("a run that is FULL", x.run(1, 0, 0, 0), FULL);
     due("the latest before it", x.took(8), 5);
@@ -498,21 +456,21 @@ public final class PromisesTest {
   }
 
   private static void tree() {
-    promise = "promise 15";
-    MatchForge x = lists();
+    Due.promise(15, "in all");
+    Forge x = Forge.lists();
     x.match(2, 1, 1, 0);
-    treeIs(x, 0, 0, 0, 0, 1, 0);
+    x.treeIs(0, 0, 0, 0, 1, 0);
     int any = x.any(1, NONE);
     int empty = x.made(1, 0, 0, 0, 0);
     int pair = x.made(1, 1, x.any(0, 0), any, 0);
     x.row(0, any, empty, 0, NONE, 0);
-    treeIs(x, 0, 1, 0, 1, 1, 1);
+    x.treeIs(0, 1, 0, 1, 1, 1);
     x.row(0, pair, any, 0, 0, 0);
-    treeIs(x, 0, 2, 1, 1, 2, 3);
+    x.treeIs(0, 2, 1, 1, 2, 3);
     x.row(0, empty, empty, 0, NONE, 0);
-    treeIs(x, 0, 2, 1, 1, 2, 3);
+    x.treeIs(0, 2, 1, 1, 2, 3);
     x.row(0, any, any, 0, NONE, 0);
-    treeIs(x, 0, 2, 1, 3, 0, 11);
+    x.treeIs(0, 2, 1, 3, 0, 11);
     due("no such number", x.tree(0, 5), NONE);
     due("no such number", x.tree(0, -1), NONE);
     due("no such match", x.tree(1, 0), NONE);
@@ -523,51 +481,51 @@ public final class PromisesTest {
   }
 
   private static void treeSizes() {
-    MatchForge y = grid(9, 9);
-    treeIs(y, 0, 11, 0, 99, 10, 1023);
+    Forge y = Forge.grid(9, 9);
+    y.treeIs(0, 11, 0, 99, 10, 1023);
     y.row(0, y.exactly(0), y.exactly(777), 0, NONE, 0);
-    treeIs(y, 0, FULL, FULL, FULL, FULL, FULL, NONE, NONE);
+    y.treeIs(0, FULL, FULL, FULL, FULL, FULL, NONE, NONE);
     due("a number that is none, of a tree too large", y.tree(0, -1), NONE);
-    MatchForge z = grid(9, 9);
+    Forge z = Forge.grid(9, 9);
     z.row(0, z.any(0, 0), z.any(0, 1), 0, 0, 1);
-    treeIs(z, 0, FULL, FULL, FULL, FULL, FULL);
-    MatchForge w = grid(8, 9);
+    z.treeIs(0, FULL, FULL, FULL, FULL, FULL);
+    Forge w = Forge.grid(8, 9);
     w.row(0, w.any(0, 0), w.any(0, 1), 0, 0, 1);
-    treeIs(w, 0, 10, 9, 89, 9, 2047);
+    w.treeIs(0, 10, 9, 89, 9, 2047);
   }
 
   private static void treeTogether() {
     for (int n = 12; n <= 14; n++) {
-      MatchForge x = new MatchForge();
+      Forge x = new Forge();
       x.match(1, 0, 0, 0);
       for (int i = 0; i < 11; i++) x.row(0, x.exactly(100 + i), 0, 0, NONE, 0);
-      x.row(0, oneOf(x, 0, n), 0, 0, NONE, 0);
+      x.row(0, x.oneOf(0, n), 0, 0, NONE, 0);
       due("11 rows and " + n, x.tree(0, 2), 11 + n <= 24 ? 11 + n : FULL);
-      MatchForge y = new MatchForge();
+      Forge y = new Forge();
       y.match(1, 0, 0, 0);
-      y.row(0, oneOf(y, 0, n), 0, 0, NONE, 0);
+      y.row(0, y.oneOf(0, n), 0, 0, NONE, 0);
       for (int i = 0; i < 11; i++) y.row(0, y.exactly(100 + i), 0, 0, NONE, 0);
       due(n + " and 11 rows", y.tree(0, 2), 11 + n <= 24 ? 11 + n : FULL);
     }
-    MatchForge x = new MatchForge();
+    Forge x = new Forge();
     x.match(2, 0, 0, 0);
     x.row(0, x.any(0, NONE), x.exactly(1), 0, NONE, 0);
-    x.row(0, oneOf(x, 0, 20), x.exactly(1), 0, NONE, 0);
-    x.row(0, oneOf(x, 0, 20), x.exactly(1), 0, NONE, 0);
-    treeIs(x, 0, 1, 0, 1, 1, 1);
+    x.row(0, x.oneOf(0, 20), x.exactly(1), 0, NONE, 0);
+    x.row(0, x.oneOf(0, 20), x.exactly(1), 0, NONE, 0);
+    x.treeIs(0, 1, 0, 1, 1, 1);
   }
 
   /** The first half of an EITHER may have ANY at the place: then another place counts. */
   private static void treeStartsOver() {
-    MatchForge x = new MatchForge();
+    Forge x = new Forge();
     x.match(2, 0, 0, 0);
     int any = x.any(0, NONE);
     x.row(0, x.either(any, x.exactly(1)), x.exactly(2), 0, NONE, 0);
-    treeIs(x, 0, 1, 0, 1, 1, 1);
+    x.treeIs(0, 1, 0, 1, 1, 1);
     x.row(0, x.exactly(1), any, 0, NONE, 0);
-    treeIs(x, 0, 2, 0, 2, 1, 3);
+    x.treeIs(0, 2, 0, 2, 1, 3);
     x.row(0, x.either(any, any), x.either(any, any), 0, NONE, 0);
-    treeIs(x, 0, 2, 0, 3, 0, 7);
+    x.treeIs(0, 2, 0, 3, 0, 7);
     x.number(1);
     x.number(2);
     x.number(3);
@@ -579,30 +537,30 @@ public final class PromisesTest {
   }
 
   private static void missing() {
-    promise = "promise 16";
-    MatchForge x = lists();
+    Due.promise(16, "in all");
+    Forge x = Forge.lists();
     x.match(2, 0, 1, 0);
     due("without rows", x.missing(0), 2);
-    parts(x, 0, 0);
+    x.partsAre(0, 0);
     int pair = x.made(1, 1, x.exactly(0), x.any(1, NONE), 0);
     x.row(0, x.exactly(1), x.any(1, NONE), 0, NONE, 0);
     due("for others", x.missing(0), 2);
-    parts(x, 0, 0);
+    x.partsAre(0, 0);
     x.row(0, x.exactly(0), x.made(1, 0, 0, 0, 0), 0, NONE, 0);
     due("others last", x.missing(0), 4);
-    parts(x, 0, 1, 0, 0);
+    x.partsAre(0, 1, 0, 0);
     x.row(0, x.exactly(0), pair, 0, NONE, 0);
     due("a number in a list", x.missing(0), 4);
-    parts(x, 0, 1, 1, 0);
+    x.partsAre(0, 1, 1, 0);
     x.row(0, x.any(0, 0), x.made(1, 1, x.any(0, 1), x.any(1, NONE), 0), 0, 0, 1);
     due("behind a question", x.missing(0), 4);
-    parts(x, 0, 1, 1, 0);
+    x.partsAre(0, 1, 1, 0);
     x.row(0, x.exactly(0), x.any(1, NONE), 0, NONE, 0);
     due("others at last", x.missing(0), 4);
-    parts(x, 2, 1, 0, 0);
+    x.partsAre(2, 1, 0, 0);
     x.row(0, x.any(0, 0), x.any(1, NONE), 0, NONE, 0);
     due("none are missing", x.missing(0), 0);
-    parts(x);
+    x.partsAre();
     due("no such match", x.missing(1), NONE);
     due("no such match", x.missing(-1), NONE);
     missingNumbers();
@@ -611,19 +569,19 @@ public final class PromisesTest {
   }
 
   private static void missingNumbers() {
-    MatchForge x = new MatchForge();
+    Forge x = new Forge();
     x.match(1, 0, 0, 0);
     int[] numbers = {5, 3, Integer.MIN_VALUE, 0, 1, Integer.MAX_VALUE, -1, 2, 4};
     int[] least = {0, 0, 0, 1, 2, 2, 2, 4, 6};
     for (int i = 0; i < numbers.length; i++) {
       x.row(0, x.exactly(numbers[i]), 0, 0, NONE, 0);
       due("of numbers", x.missing(0), 1);
-      parts(x, least[i]);
+      x.partsAre(least[i]);
     }
   }
 
   private static void missingMakers() {
-    MatchForge x = new MatchForge();
+    Forge x = new Forge();
     x.type();
     x.type();
     x.maker(1, 2, 2, 0, 0);
@@ -634,22 +592,22 @@ public final class PromisesTest {
     x.maker(2, 0, 0, 0, 0);
     x.match(2, 1, 2, 0);
     due("plain, the least maker of the smallest", x.missing(0), 3);
-    parts(x, 1, 0, 1);
+    x.partsAre(1, 0, 1);
     int any = x.any(2, NONE);
     x.row(0, x.made(1, 1, x.any(0, NONE), 0, 0), any, 0, NONE, 0);
     due("the least maker that was not there", x.missing(0), 4);
-    parts(x, 0, 1, 0, 1);
+    x.partsAre(0, 1, 0, 1);
     x.row(0, x.made(1, 0, x.made(2, 2, 0, 0, 0), x.any(0, NONE), 0), any, 0, NONE, 0);
     due("in a part", x.missing(0), 5);
-    parts(x, 0, 0, 1, 0, 1);
+    x.partsAre(0, 0, 1, 0, 1);
     x.row(0, x.made(1, 0, any, x.exactly(0), 0), x.made(2, 1, 0, 0, 0), 0, NONE, 0);
     due("in all of them", x.missing(0), 6);
-    parts(x, 0, 0, 1, 0, 0, 1);
+    x.partsAre(0, 0, 1, 0, 0, 1);
   }
 
   /** Sizes 4, 13, 40, 121, 364 for types 1 to 5; type 6 are lists of those and of numbers. */
   private static void missingMany() {
-    MatchForge x = new MatchForge();
+    Forge x = new Forge();
     for (int t = 1; t <= 6; t++) x.type();
     for (int t = 1; t <= 5; t++) x.maker(t, 3, t - 1, t - 1, t - 1);
     x.maker(6, 3, 5, 5, 6);
@@ -686,30 +644,30 @@ public final class PromisesTest {
   }
 
   private static void part() {
-    promise = "promise 17";
-    MatchForge x = grid(9, 9);
+    Due.promise(17, "in all");
+    Forge x = Forge.grid(9, 9);
     x.match(3, 0, 0, 0);
     x.match(1, 0, 0, 0);
     x.row(1, x.exactly(0), x.any(0, NONE), x.any(0, NONE), NONE, 0);
     x.row(2, x.any(0, NONE), 0, 0, NONE, 0);
     due("part(0) before", x.part(0), NONE);
     due("missing(1)", x.missing(1), 3);
-    parts(x, 1, 0, 0);
+    x.partsAre(1, 0, 0);
     due("part(-1)", x.part(-1), NONE);
     due("part(MAX)", x.part(Integer.MAX_VALUE), NONE);
     due("part(MIN)", x.part(Integer.MIN_VALUE), NONE);
     due("missing(9)", x.missing(9), NONE);
-    parts(x, 1, 0, 0);
+    x.partsAre(1, 0, 0);
     x.row(0, x.exactly(0), x.exactly(777), 0, NONE, 0);
     due("missing(0)", x.missing(0), FULL);
-    parts(x, 1, 0, 0);
+    x.partsAre(1, 0, 0);
     due("missing(2)", x.missing(2), 0);
-    parts(x);
+    x.partsAre();
   }
 
   private static void plain() {
-    promise = "promise 18";
-    MatchForge x = new MatchForge();
+    Due.promise(18, "in all");
+    Forge x = new Forge();
     for (int t = 1; t <= 7; t++) {
       due("before it is told", x.plain(t), NONE);
       x.type();
@@ -737,8 +695,8 @@ public final class PromisesTest {
   }
 
   private static void count() {
-    promise = "promise 19";
-    MatchForge x = lists();
+    Due.promise(19, "in all");
+    Forge x = Forge.lists();
     x.type();
     x.maker(2, 0, 0, 0, 0);
     x.number(1);
@@ -760,8 +718,8 @@ public final class PromisesTest {
   }
 
   private static void check() {
-    promise = "promise 20";
-    MatchForge x = lists();
+    Due.promise(20, "in all");
+    Forge x = Forge.lists();
     int any = x.any(1, NONE);
     int pair = x.made(1, 1, x.any(0, 2), x.any(1, 3), 0);
     x.match(2, 1, 1, 0);
@@ -780,11 +738,11 @@ public final class PromisesTest {
     due("the latest run stays", x.took(16), 1);
     due("missing(1)", x.missing(1), 2);
     due("check()", x.check(), 1);
-    parts(x, 0, 0);
-    MatchForge y = grid(9, 10);
+    x.partsAre(0, 0);
+    Forge y = Forge.grid(9, 10);
     y.number(3);
     due("with a tree that is too large", y.check(), 1);
-    MatchForge z = new MatchForge();
+    Forge z = new Forge();
     z.match(3, 0, 0, 0);
     int name = z.any(0, 0);
     z.row(0, name, z.any(0, 1), z.any(0, 2), 0, 1);
@@ -818,7 +776,6 @@ public final class PromisesTest {
     plain();
     count();
     check();
-    System.out.println(wrong == 0 ? "all " + asked + " answers are as due" : wrong + " answers are not as due");
-    if (wrong != 0) System.exit(1);
+    Due.end();
   }
 }

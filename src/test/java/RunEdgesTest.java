@@ -87,9 +87,12 @@ public final class RunEdgesTest {
     x.match(1, 0, 0, 0);
     x.row(0, x.any(0, 0), x.any(0, 15), 0, 0, 15);
     x.row(1, 0, 0, 0, 0, 0);
+    x.match(2, 0, 0, 0);
+    x.row(2, 0, 1, 0, 15, 0);
     for (int i = 0; i < numbers.length; i++) {
       for (int k = 0; k < numbers.length; k++) {
         due(numbers[i] + " and " + numbers[k], x.run(0, i, k, 0), i < k ? 0 : NONE);
+        due(numbers[k] + " before " + numbers[i], x.run(2, i, k, 0), k < i ? 0 : NONE);
       }
       due("one name twice, " + numbers[i], x.run(1, i, 0, 0), NONE);
     }

@@ -104,6 +104,9 @@ public final class TreeEdgesTest {
     for (int r = 0; r < 12; r++) x.row(1, x.exactly(11 - r), 0, 0);
     due("all", x.tree(1, 4), 0b111111111111);
     due("the other one still", x.tree(0, 4), 0b110101010101);
+    x.number(12);
+    due("a value that no row of the second takes", x.run(1, 0, 0, 0), NONE);
+    due("check()", x.check(), 1);
   }
 
   private static void firstPlaceThatCounts() {
@@ -167,22 +170,9 @@ public final class TreeEdgesTest {
     due("list and the second place", x.took(16), 2);
   }
 
-  /**
-   * A match of two numbers; j rows (ANY, a NUMBER) behind one of k numbers before a NUMBER. Its tree
-   * has (k + 1)(j + 3) nodes; with a guard behind them all, (k + 1)(j + 4), k + 1 of them questions.
-   */
-  private static Forge grid(int k, int j) {
-    Forge x = new Forge();
-    x.match(2, 0, 0, 0);
-    x.row(0, x.oneOf(0, k), x.exactly(500), 0);
-    int any = x.any(0, NONE);
-    for (int i = 0; i < j; i++) x.row(0, any, x.exactly(100 + i), 0);
-    return x;
-  }
-
   private static void nodesWithoutQuestions() {
     Due.promise(15, "more than 120 failures, taken and tests");
-    Forge x = grid(9, 9);
+    Forge x = Forge.grid(9, 9);
     x.treeIs(0, 11, 0, 99, 10, 1023);
     x.row(0, x.exactly(0), x.exactly(777), 0);
     x.treeIsFull(0);
@@ -190,27 +180,27 @@ public final class TreeEdgesTest {
     x.number(0);
     due("nothing is taken by it", x.run(0, 0, 0, 0), FULL);
     due("check()", x.check(), 1);
-    Forge y = grid(9, 9);
+    Forge y = Forge.grid(9, 9);
     y.row(0, y.exactly(0), y.exactly(100), 0);
     y.treeIs(0, 11, 0, 99, 10, 1023);
     y.row(0, y.any(0, NONE), y.any(0, NONE), 0);
     y.treeIs(0, 11, 0, 109, 0, 3071);
-    Forge z = grid(9, 9);
+    Forge z = Forge.grid(9, 9);
     z.row(0, z.exactly(50), z.exactly(100), 0);
     due("one more number at the first place", z.tree(0, 0), FULL);
   }
 
   private static void nodesWithQuestions() {
     Due.promise(15, "more than 120 failures, taken, questions and tests");
-    Forge x = grid(9, 8);
+    Forge x = Forge.grid(9, 8);
     x.row(0, x.any(0, 0), x.any(0, 1), 0, 0, 1);
     x.treeIs(0, 11, 10, 89, 10, 1023);
-    Forge y = grid(9, 8);
+    Forge y = Forge.grid(9, 8);
     y.row(0, y.exactly(0), y.exactly(777), 0);
     y.treeIs(0, 11, 0, 90, 10, 1023);
     y.row(0, y.any(0, 0), y.any(0, 1), 0, 0, 1);
     y.treeIsFull(0);
-    Forge z = grid(9, 9);
+    Forge z = Forge.grid(9, 9);
     z.row(0, z.any(0, 0), z.any(0, 1), 0, 0, 1);
     z.treeIsFull(0);
   }
@@ -359,6 +349,14 @@ public final class TreeEdgesTest {
     z.match(1, 0, 0, 0);
     z.row(0, z.either(z.any(0, 5), z.also(5, z.exactly(1))), 0, 0);
     z.treeIs(0, 0, 0, 1, 0, 1);
+    z.match(3, 0, 0, 0);
+    int some = z.either(z.any(0, NONE), z.exactly(1));
+    z.row(1, some, some, some);
+    z.treeIs(1, 0, 0, 1, 0, 1);
+    z.match(3, 0, 0, 0);
+    z.row(2, some, some, z.exactly(2));
+    z.row(2, z.exactly(1), some, some);
+    z.treeIs(2, 3, 0, 3, 2, 3);
   }
 
   /** The halves of EITHER stand in order: the first one's names are told, the second one's tested. */

@@ -126,6 +126,8 @@ public final class TypeEdgesTest {
     due("of two", x.maker(1, 2, 0, 2, -1), 2);
     due("of three", x.maker(1, 3, 0, 1, 2), 3);
     due("of itself alone", x.maker(2, 3, 2, 2, 2), 0);
+    due("plain(1)", x.plain(1), 1);
+    due("plain(2)", x.plain(2), 0);
     x.countsStand();
     partsAreThoseTold(x);
   }
@@ -206,6 +208,11 @@ public final class TypeEdgesTest {
     due("and so has that, by that", x.plain(2), 6);
     due("still none", x.plain(4), 0);
     due("still none", x.plain(7), 0);
+    x.maker(4, 1, 7, 0, 0);
+    x.maker(4, 2, 2, 0, 0);
+    x.maker(4, 2, 0, 7, 0);
+    due("by one that has only types that do", x.plain(4), 8);
+    due("not by the others", x.plain(7), 0);
   }
 
   /** The largest there is: each type has three of the one before. */

@@ -161,7 +161,8 @@ public final class ValueEdgesTest {
     for (int v = 2; v <= 50; v++) due("a list of " + (v - 1), x.make(1, 1, 0, v - 1, 0), v);
     due("a list of 50, of size 101", x.make(1, 1, 0, 50, 0), NONE);
     x.countsStand();
-    due("a number behind a large value", x.number(MIN), 51);
+    due("a list that is no number", x.make(1, 1, 50, 50, 0), NONE);
+    due("a number behind it", x.number(MIN), 51);
     due("1 + 1 + 97", x.make(1, 1, 51, 49, 0), 52);
     due("1 + 1 + 99", x.make(1, 1, 51, 50, 0), NONE);
     x.countsStand();
