@@ -6,8 +6,8 @@ import java.util.function.ToIntFunction;
 public final class CallsEdgesTest {
   private static final int NONE = Forge.NONE;
   private static final int FULL = Forge.FULL;
-  /** Some 7.3 million fields and elements, most of them ints. */
-  private static final long ROOM = 7_300_000L * 4;
+  /** Bytes: some 7.3 million fields and elements, most of them ints, and 600,000 objects' heads. */
+  private static final long ROOM = 7_300_000L * 4 + 600_000L * 16;
 
   private static void due(String what, int got, int want) {
     Due.due(what, got, want);
@@ -65,7 +65,7 @@ public final class CallsEdgesTest {
     last("check()", 1, x -> x.check());
   }
 
-  /** Trees of 120 nodes, made anew for each row that comes: 12 of each of 20 matches. */
+  /** Trees of wide patterns, made anew for each row that comes: 11 of each of 20 matches. */
   private static void dearTrees(Forge x) {
     x.type();
     x.maker(1, 3, 1, 1, 1);
