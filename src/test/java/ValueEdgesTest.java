@@ -59,6 +59,23 @@ public final class ValueEdgesTest {
     due("its list", x.took(1), 298);
   }
 
+  /** The 300th value has as many parts as there may be, and a run looks at all of them. */
+  private static void theLastWithThreeParts() {
+    Due.promise(5, "the 300th value is one like others");
+    Forge x = Forge.shapes();
+    for (int i = 0; i < 299; i++) x.make(1, 0, 0, 0, 0);
+    due("the 300th", x.make(1, 3, 7, 298, 0), 299);
+    due("the 301st", x.make(1, 3, 7, 298, 0), NONE);
+    x.match(3, 1, 1, 1);
+    int parts = x.made(1, 3, x.any(1, 0), x.any(1, 1), x.any(1, 2));
+    due("a row", x.row(0, x.any(1, NONE), parts, x.any(1, 3)), 0);
+    due("run", x.run(0, 298, 299, 299), 0);
+    int[] want = {7, 298, 0, 299};
+    for (int name = 0; name < 4; name++) due("took(" + name + ")", x.took(name), want[name]);
+    due("check()", x.check(), 1);
+    x.countsStand();
+  }
+
   private static void makersThatAreNone() {
     Due.promise(5, "NONE when there is none such");
     Forge x = Forge.lists();
@@ -172,6 +189,7 @@ public final class ValueEdgesTest {
     anyNumber();
     mostNumbers();
     mostMade();
+    theLastWithThreeParts();
     makersThatAreNone();
     partsThatAreNone();
     sizesByOnePart();
