@@ -755,7 +755,7 @@ public final class MatchForge {
         }
 
         private void splitAll(int place) {
-            for (int i = 0; i < rowCount; i++) {
+            for (int i = 0; i < MOST_TOGETHER && i < rowCount; i++) {
                 for (int k = 0; k < MOST_TOGETHER && isEither(i, place) && !tree.tooLarge; k++) {
                     split(i, place);
                 }

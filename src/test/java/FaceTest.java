@@ -31,6 +31,8 @@ public final class FaceTest {
       if (Modifier.isPublic(m.getModifiers())) {
         expect(found.put(m.getName(), m.getParameterCount()) == null, "twice: " + m);
         expect(m.getReturnType() == int.class, "no int: " + m);
+        expect(!Modifier.isStatic(m.getModifiers()), "static: " + m);
+        for (Class<?> given : m.getParameterTypes()) expect(given == int.class, "no int: " + m);
       } else {
         expect(Modifier.isPrivate(m.getModifiers()), "not private: " + m);
         expect(!due.containsKey(m.getName()), "a private method with a public name: " + m);
